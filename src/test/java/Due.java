@@ -22,6 +22,11 @@ final class Due {
         }
     }
 
+    /** How many answers were wrong so far. */
+    static int wrong() {
+        return wrong;
+    }
+
     /** Ends the program, with exit code 1 if an answer was wrong. */
     static void end() {
         System.out.println(wrong == 0 ? "all answers are as due" : wrong + " answers are not as due");

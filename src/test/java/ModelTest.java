@@ -11,12 +11,18 @@ import java.util.TreeMap;
 public final class ModelTest {
     private static final int RUNS = 3000;
     private static final int CALLS = 150;
+    private static final int LONG_RUNS = 30;
+    private static final int LONG_CALLS = 6000;
 
     private long seed;
 
     public static void main(String[] args) {
         for (int run = 1; run <= RUNS; run++) {
-            new ModelTest(run).play(run);
+            new ModelTest(run).play(run, CALLS);
+        }
+        // Long enough for a RANGE of 64 to slide over what it holds many times.
+        for (int run = RUNS + 1; run <= RUNS + LONG_RUNS; run++) {
+            new ModelTest(run).play(run, LONG_CALLS);
         }
         Due.end();
     }
@@ -45,13 +51,13 @@ public final class ModelTest {
         return low + upTo(high - low + 1);
     }
 
-    private void play(int run) {
+    private void play(int run, int calls) {
         int cap = upTo(16);
         ContinuousQuery x = new ContinuousQuery(cap);
         Model model = new Model(cap);
         int keys = 1 + upTo(4);
         int values = 1 + upTo(6);
-        for (int call = 0; call < CALLS; call++) {
+        for (int call = 0; call < calls; call++) {
             String made = model.info(1) == 0
                 ? configCall(x, model)
                 : runningCall(x, model, keys, values);
@@ -66,7 +72,7 @@ public final class ModelTest {
         int b = near(0, 4);
         int c = near(0, 3);
         switch (upTo(9)) {
-            case 0: return same("setWindow", x.setWindow(stream, 1, a), model.setWindow(stream, 1, a));
+            case 0: return setRange(x, model, stream, upTo(2) == 0 ? a : near(1, 64));
             case 1: return same("setWindow", x.setWindow(stream, c, a), model.setWindow(stream, c, a));
             case 2: return same("setFilter", x.setFilter(stream, c, b, a), model.setFilter(stream, c, b, a));
             case 3: return same("setJoin", x.setJoin(stream), model.setJoin(stream));
@@ -76,6 +82,10 @@ public final class ModelTest {
             case 7: return same("compile", x.compile(), model.compile());
             default: return strayCall(x, model);
         }
+    }
+
+    private static String setRange(ContinuousQuery x, Model model, int stream, int size) {
+        return same("setWindow", x.setWindow(stream, 1, size), model.setWindow(stream, 1, size));
     }
 
     private String runningCall(ContinuousQuery x, Model model, int keys, int values) {

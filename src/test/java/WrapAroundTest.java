@@ -1,50 +1,105 @@
 import java.util.ArrayList;
 import java.util.List;
 
-/** Promises 11 and 14 where now wraps around: the document asks for Java int arithmetic there. */
+/**
+ * Promises 11 and 14 where now passes the greatest int. Only steps lead there, so each object makes
+ * some two thousand million of them, in a thread of its own. There RANGE means what the sentence on
+ * a step's removals says in int arithmetic: a tuple of the least instants leaves with its own step.
+ */
 public final class WrapAroundTest {
-    private static final int RANGE = 3;
+    private static final int START = Integer.MAX_VALUE - 70;
+    private static final int STEPS = 160;
 
-    public static void main(String[] args) {
-        ContinuousQuery x = new ContinuousQuery(12);
-        x.setWindow(0, 1, RANGE);
-        x.setWindow(1, 2, 2);
-        x.setJoin(1);
-        x.setOutput(3);
-        x.compile();
-        for (int t = 0; t < Integer.MAX_VALUE - 5; t++) {
-            x.step();
-        }
-        Due.due("info(0)", x.info(0), Integer.MAX_VALUE - 5);
-        stepsAcrossTheWrap(x);
+    public static void main(String[] args) throws InterruptedException {
+        ContinuousQuery narrow = query(Edge.RANGE, 1, Edge.RANGE, 3);
+        ContinuousQuery wide = query(Edge.RANGE, 64, Edge.RANGE, 2);
+        ContinuousQuery rows = query(Edge.RANGE, 63, Edge.ROWS, 2);
+        stepAll(narrow, wide, rows);
+        Edge.holds("now becomes t + 1, in Java int arithmetic.", () -> nowPassesTheGreatestInt(rows));
+        Edge.holds("For each stream with a RANGE r window, held tuples with ts <= now - r are removed (with the new"
+            + " now, in Java int arithmetic), and the remaining tuples keep their order.", () -> {
+                goesAcross(narrow, 1, 3);
+                goesAcross(wide, 64, 2);
+            });
         Due.end();
     }
 
-    private static void stepsAcrossTheWrap(ContinuousQuery x) {
-        List<Integer> range = new ArrayList<>();
-        List<Integer> rows = new ArrayList<>();
-        int t = Integer.MAX_VALUE - 5;
-        for (int i = 0; i < 12; i++) {
-            x.arrive(0, 1, 7);
-            x.arrive(1, 1, 7);
-            range.add(t);
-            rows.add(t);
-            if (rows.size() > 2) {
-                rows.remove(0);
-            }
-            storesAre("before the step at " + t, x, range, rows);
-            Due.due("step() at " + t, x.step(), range.size() * rows.size());
-            t++;
-            int limit = t - RANGE;
-            range.removeIf(ts -> ts <= limit);
-            Due.due("info(0)", x.info(0), t);
-            storesAre("before the arrivals at " + t, x, range, rows);
+    private static ContinuousQuery query(int kind0, int size0, int kind1, int size1) {
+        ContinuousQuery x = new ContinuousQuery(12);
+        Due.due("the window of S0", x.setWindow(0, kind0, size0), 0);
+        Due.due("the window of S1", x.setWindow(1, kind1, size1), 0);
+        x.setJoin(1);
+        x.setOutput(3);
+        Due.due("compile()", x.compile(), 0);
+        return x;
+    }
+
+    private static void stepAll(ContinuousQuery... queries) throws InterruptedException {
+        List<Thread> threads = new ArrayList<>();
+        for (ContinuousQuery x : queries) {
+            Thread thread = new Thread(() -> stepToStart(x));
+            thread.start();
+            threads.add(thread);
+        }
+        for (Thread thread : threads) {
+            thread.join();
         }
     }
 
-    private static void storesAre(String when, ContinuousQuery x, List<Integer> range, List<Integer> rows) {
-        Due.same(when + ": store 0", Due.store(x, 0), answers(range));
-        Due.same(when + ": store 1", Due.store(x, 1), answers(rows));
+    private static void stepToStart(ContinuousQuery x) {
+        for (int t = 0; t < START; t++) {
+            x.step();
+        }
+    }
+
+    // The ROWS store keeps a tuple of the greatest instant and one of the least: no step removes them.
+    private static void nowPassesTheGreatestInt(ContinuousQuery x) {
+        for (int t = START; t < Integer.MAX_VALUE; t++) {
+            Due.due("now before " + t, x.info(0), t);
+            x.step();
+        }
+        Due.due("the greatest now", x.info(0), Integer.MAX_VALUE);
+        x.arrive(1, 15, 255);
+        Due.due("the step at the greatest now", x.step(), 0);
+        Due.due("now after it", x.info(0), Integer.MIN_VALUE);
+        x.arrive(1, 0, 0);
+        for (int t = Integer.MIN_VALUE; t < Integer.MIN_VALUE + 100; t++) {
+            Due.due("now", x.info(0), t);
+            Due.same("the ROWS store at " + t, Due.store(x, 1), List.of(-1, 0));
+            Due.due("the step at " + t, x.step(), 0);
+        }
+    }
+
+    private static void goesAcross(ContinuousQuery x, int r0, int r1) {
+        List<Integer> held0 = new ArrayList<>();
+        List<Integer> held1 = new ArrayList<>();
+        int t = START;
+        for (int i = 0; i < STEPS; i++) {
+            // Every seventh instant only, so that a RANGE 64 store of 12 places never fills.
+            arriveAt(x, 0, t, i % 7 == 0 || t == Integer.MIN_VALUE + 1, held0);
+            arriveAt(x, 1, t, true, held1);
+            storesAre("before the step at " + t, x, held0, held1);
+            Due.due("step() at " + t, x.step(), held0.size() * held1.size());
+            t++;
+            int limit0 = t - r0;
+            int limit1 = t - r1;
+            held0.removeIf(ts -> ts <= limit0);
+            held1.removeIf(ts -> ts <= limit1);
+            Due.due("now", x.info(0), t);
+            storesAre("before the arrivals at " + t, x, held0, held1);
+        }
+    }
+
+    private static void arriveAt(ContinuousQuery x, int stream, int t, boolean wanted, List<Integer> held) {
+        if (wanted) {
+            Due.due("arrive(" + stream + ", 1, 7) at " + t, x.arrive(stream, 1, 7), 0);
+            held.add(t);
+        }
+    }
+
+    private static void storesAre(String when, ContinuousQuery x, List<Integer> held0, List<Integer> held1) {
+        Due.same(when + ": store 0", Due.store(x, 0), answers(held0));
+        Due.same(when + ": store 1", Due.store(x, 1), answers(held1));
     }
 
     private static List<Integer> answers(List<Integer> instants) {
