@@ -100,6 +100,7 @@ final class Edge {
         Map<String, Supplier<ContinuousQuery>> states = new LinkedHashMap<>();
         states.put("a new object", () -> new ContinuousQuery(4));
         states.put("an object with every clause set", () -> everyClauseSet(5));
+        states.put("an object with every clause set in another order", Edge::everyClauseSetBackwards);
         states.put("an object after reset", Edge::afterReset);
         states.put("an object with a wrong query", Edge::wrongQuery);
         return states;
@@ -111,6 +112,12 @@ final class Edge {
         states.put("a query just compiled", Edge::justCompiled);
         states.put("a query without join", Edge::withoutJoin);
         states.putAll(joined());
+        return states;
+    }
+
+    static Map<String, Supplier<ContinuousQuery>> allStates() {
+        Map<String, Supplier<ContinuousQuery>> states = new LinkedHashMap<>(config());
+        states.putAll(running());
         return states;
     }
 
@@ -132,6 +139,20 @@ final class Edge {
         Due.due("setProject(3)", x.setProject(3), 0);
         Due.due("setAggregate(2, 2)", x.setAggregate(2, 2), 0);
         Due.due("setOutput(2)", x.setOutput(2), 0);
+        return x;
+    }
+
+    // A setter that touches another clause is seen only where that clause was set after it.
+    private static ContinuousQuery everyClauseSetBackwards() {
+        ContinuousQuery x = new ContinuousQuery(7);
+        Due.due("setOutput(3)", x.setOutput(3), 0);
+        Due.due("setAggregate(2, 1)", x.setAggregate(2, 1), 0);
+        Due.due("setProject(6)", x.setProject(6), 0);
+        Due.due("setJoin(1)", x.setJoin(1), 0);
+        Due.due("setFilter(1, 1, 3, 200)", x.setFilter(1, 1, 3, 200), 0);
+        Due.due("setFilter(0, 1, 1, 2)", x.setFilter(0, 1, 1, 2), 0);
+        Due.due("setWindow(1, 1, 5)", x.setWindow(1, RANGE, 5), 0);
+        Due.due("setWindow(0, 2, 6)", x.setWindow(0, ROWS, 6), 0);
         return x;
     }
 

@@ -1,7 +1,3 @@
-import java.util.LinkedHashMap;
-import java.util.Map;
-import java.util.function.Supplier;
-
 /** Promise 2, reset: each sentence that names a boundary case. */
 public final class Promise02EdgesTest {
     public static void main(String[] args) {
@@ -14,14 +10,8 @@ public final class Promise02EdgesTest {
         Due.end();
     }
 
-    private static Map<String, Supplier<ContinuousQuery>> allStates() {
-        Map<String, Supplier<ContinuousQuery>> states = new LinkedHashMap<>(Edge.config());
-        states.putAll(Edge.running());
-        return states;
-    }
-
     private static void isAlwaysAllowed() {
-        allStates().forEach((state, maker) -> {
+        Edge.allStates().forEach((state, maker) -> {
             ContinuousQuery x = maker.get();
             Due.due("reset() on " + state, x.reset(), 0);
             Due.due("the phase after it", x.info(1), 0);
@@ -30,7 +20,7 @@ public final class Promise02EdgesTest {
     }
 
     private static void answersOk() {
-        allStates().forEach((state, maker) -> {
+        Edge.allStates().forEach((state, maker) -> {
             ContinuousQuery x = maker.get();
             for (int time = 1; time <= 3; time++) {
                 Due.due("reset() number " + time + " on " + state, x.reset(), 0);
@@ -62,7 +52,7 @@ public final class Promise02EdgesTest {
     }
 
     private static void leavesNothingBehind() {
-        allStates().forEach((state, maker) -> {
+        Edge.allStates().forEach((state, maker) -> {
             ContinuousQuery x = maker.get();
             ContinuousQuery fresh = new ContinuousQuery(x.info(21));
             x.reset();

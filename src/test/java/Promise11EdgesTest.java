@@ -12,6 +12,7 @@ public final class Promise11EdgesTest {
         Edge.holds("R(t) is evaluated as defined below.", Promise11EdgesTest::evaluatedBeforeExpiry);
         Edge.holds("The output list is set from R(t) and the previous relation, according to the output kind.",
             Promise11EdgesTest::outputComesBeforeTheNewRelation);
+        Edge.holds("R(t) becomes the relation.", Promise11EdgesTest::theRelationIsReplaced);
         Edge.holds("For each stream with a RANGE r window, held tuples with ts <= now - r are removed",
             Promise11EdgesTest::rangeRemovesUpToItsEdge);
         Edge.holds("the remaining tuples keep their order.", Promise11EdgesTest::remainingKeepTheirOrder);
@@ -38,6 +39,8 @@ public final class Promise11EdgesTest {
         Edge.holds("Join on: for each pair (x in F_0, y in F_1) with x.key == y.key, one row (x.key, x.value,"
             + " y.value).", Promise11EdgesTest::joinFromEmptyToFull);
         Edge.holds("Aggregate NONE: the rows stay as they are.", Promise11EdgesTest::noneKeepsRows);
+        Edge.holds("COUNT or SUM: for each key k that has at least one base row with column 0 == k, there is one"
+            + " row (k, A, 0).", Promise11EdgesTest::oneRowForEachKey);
         Edge.holds("A is the number of those base rows (COUNT)", Promise11EdgesTest::countFrom1To144);
         Edge.holds("the sum of column a of those base rows (SUM, a = the stored aggregate column, 1 or 2).",
             Promise11EdgesTest::sumFromZeroToGreatest);
@@ -92,6 +95,25 @@ public final class Promise11EdgesTest {
             x.step();
             Due.rowsAre("output " + output + " at 2", x, 0, third[output]);
             Due.rowsAre("relation at 2", x, 1, "");
+        }
+    }
+
+    // The relation grows, shrinks and becomes empty, whatever the output kind.
+    private static void theRelationIsReplaced() {
+        for (int output = 1; output <= 3; output++) {
+            ContinuousQuery x = new ContinuousQuery(12);
+            x.setWindow(0, Edge.RANGE, 1);
+            x.setOutput(output);
+            x.compile();
+            for (int count : new int[] {0, 1, 12, 3, 0, 0, 2, 12, 0}) {
+                Edge.arrivals(x, 0, count);
+                x.step();
+                Due.due("rows of the relation", x.info(3), count);
+                for (int i = 0; i < count; i++) {
+                    Due.same("row " + i, Due.rows(x, 1).get(i), List.of(1, i, 0));
+                }
+                Due.due("the row after the last", x.row(1, count, 0), -1);
+            }
         }
     }
 
@@ -372,6 +394,32 @@ public final class Promise11EdgesTest {
         return x;
     }
 
+    // From no key to as many as a store may hold.
+    private static void oneRowForEachKey() {
+        for (int aggregate = 1; aggregate <= 2; aggregate++) {
+            for (int keys = 0; keys <= 12; keys++) {
+                ContinuousQuery x = new ContinuousQuery(12);
+                x.setAggregate(aggregate, 1);
+                x.compile();
+                List<List<Integer>> want = new ArrayList<>();
+                for (int i = 0; i < keys; i++) {
+                    x.arrive(0, 15 - i, 1);
+                    want.add(0, List.of(15 - i, 1, 0));
+                }
+                Due.due(keys + " keys", x.step(), keys);
+                Due.same("their rows", Due.rows(x, 1), want);
+            }
+            ContinuousQuery x = new ContinuousQuery(12);
+            x.setAggregate(aggregate, 1);
+            x.compile();
+            for (int i = 0; i < 12; i++) {
+                x.arrive(0, i % 2 * 15, 1);
+            }
+            x.step();
+            Due.rowsAre("twelve tuples of two keys", x, 1, "0,6,0 15,6,0");
+        }
+    }
+
     private static void countFrom1To144() {
         Due.rowsAre("COUNT of no pairs", grouped(1, 0, 12, 0, 9), 1, "");
         for (int count = 1; count <= 12; count++) {
@@ -434,15 +482,15 @@ public final class Promise11EdgesTest {
             x.setProject(mask);
             x.compile();
             x.arrive(0, 15, 255);
-            x.arrive(1, 15, 254);
+            x.arrive(1, 15, 255);
             x.arrive(0, 0, 1);
-            x.arrive(1, 0, 2);
+            x.arrive(1, 0, 1);
             int[] bits = {mask & 1, mask >> 1 & 1, mask >> 2 & 1};
             Due.due("step() with mask " + mask, x.step(), 2);
             Due.same("the lesser row with mask " + mask, Due.rows(x, 1).get(0),
-                List.of(0, bits[1], 2 * bits[2]));
+                List.of(0, bits[1], bits[2]));
             Due.same("the greater row with mask " + mask, Due.rows(x, 1).get(1),
-                List.of(15 * bits[0], 255 * bits[1], 254 * bits[2]));
+                List.of(15 * bits[0], 255 * bits[1], 255 * bits[2]));
         }
     }
 
@@ -467,6 +515,7 @@ public final class Promise11EdgesTest {
 
     // Row (1, 0, 0) is in one relation a times and in the next one b times, beside rows that stay.
     private static void multiplicities(int output) {
+        fullRelations(output);
         for (int a = 0; a <= 10; a++) {
             for (int b = 0; b <= 10; b++) {
                 ContinuousQuery x = new ContinuousQuery(12);
@@ -489,6 +538,29 @@ public final class Promise11EdgesTest {
                 Due.same("the output of " + a + " copies, then " + b, Due.rows(x, 0), want);
                 Due.due("the relation", x.info(3), b + 2);
             }
+        }
+    }
+
+    // No row of a full relation is in the next one, be that greater, lesser or empty.
+    private static void fullRelations(int output) {
+        ContinuousQuery x = new ContinuousQuery(12);
+        x.setJoin(1);
+        x.setWindow(0, Edge.RANGE, 1);
+        x.setWindow(1, Edge.RANGE, 1);
+        x.setOutput(output);
+        x.compile();
+        int previous = -1;
+        for (int key : new int[] {7, 15, 0, -1, 15, -1, 0, 7}) {
+            for (int i = 0; i < 12 && key >= 0; i++) {
+                x.arrive(0, key, 255);
+                x.arrive(1, key, 255);
+            }
+            int emitted = output == 2 ? previous : key;
+            Due.due("a relation of key " + key, x.step(), emitted < 0 ? 0 : 144);
+            for (List<Integer> row : Due.rows(x, 0)) {
+                Due.same("a row emitted", row, List.of(emitted, 255, 255));
+            }
+            previous = key;
         }
     }
 

@@ -1,7 +1,3 @@
-import java.util.LinkedHashMap;
-import java.util.Map;
-import java.util.function.Supplier;
-
 /** Promise 12, info: each sentence that names a boundary case. */
 public final class Promise12EdgesTest {
     public static void main(String[] args) {
@@ -16,12 +12,6 @@ public final class Promise12EdgesTest {
         Edge.holds("Any other code (below 0 or above 21) answers -1.", Promise12EdgesTest::otherCodes);
         Edge.holds("info never changes anything.", Promise12EdgesTest::changesNothing);
         Due.end();
-    }
-
-    private static Map<String, Supplier<ContinuousQuery>> allStates() {
-        Map<String, Supplier<ContinuousQuery>> states = new LinkedHashMap<>(Edge.config());
-        states.putAll(Edge.running());
-        return states;
     }
 
     private static void bothPhasesAnswer() {
@@ -114,7 +104,7 @@ public final class Promise12EdgesTest {
     }
 
     private static void otherCodes() {
-        allStates().forEach((state, maker) -> {
+        Edge.allStates().forEach((state, maker) -> {
             ContinuousQuery x = maker.get();
             for (int what : Edge.outside(0, 21)) {
                 Due.due("info(" + what + ") on " + state, x.info(what), -1);
@@ -127,7 +117,7 @@ public final class Promise12EdgesTest {
     }
 
     private static void changesNothing() {
-        allStates().forEach((state, maker) -> {
+        Edge.allStates().forEach((state, maker) -> {
             int[] infos = Due.infos(maker.get());
             for (int what = -2; what <= 23; what++) {
                 int code = what;

@@ -1,7 +1,4 @@
-import java.util.LinkedHashMap;
 import java.util.List;
-import java.util.Map;
-import java.util.function.Supplier;
 
 /** Promise 13, row: each sentence that names a boundary case. */
 public final class Promise13EdgesTest {
@@ -114,7 +111,7 @@ public final class Promise13EdgesTest {
     }
 
     private static void emptyList() {
-        allStates().forEach((state, maker) -> {
+        Edge.allStates().forEach((state, maker) -> {
             ContinuousQuery x = maker.get();
             x.reset();
             answersMinus1Outside(x, 0, 0);
@@ -123,12 +120,6 @@ public final class Promise13EdgesTest {
             x.step();
             answersMinus1Outside(x, 0, 0);
         });
-    }
-
-    private static Map<String, Supplier<ContinuousQuery>> allStates() {
-        Map<String, Supplier<ContinuousQuery>> states = new LinkedHashMap<>(Edge.config());
-        states.putAll(Edge.running());
-        return states;
     }
 
     private static void columnOutside() {
@@ -142,7 +133,7 @@ public final class Promise13EdgesTest {
     }
 
     private static void changesNothing() {
-        allStates().forEach((state, maker) -> {
+        Edge.allStates().forEach((state, maker) -> {
             ContinuousQuery sample = maker.get();
             for (int which = -1; which <= 2; which++) {
                 for (int i : new int[] {Edge.MIN, -1, 0, 1, 5, 6, Edge.MAX}) {

@@ -1,7 +1,3 @@
-import java.util.LinkedHashMap;
-import java.util.Map;
-import java.util.function.Supplier;
-
 /** Promise 14, stored: each sentence that names a boundary case. */
 public final class Promise14EdgesTest {
     public static void main(String[] args) {
@@ -63,14 +59,8 @@ public final class Promise14EdgesTest {
         Due.due("instants looked at", next, instants.length);
     }
 
-    private static Map<String, Supplier<ContinuousQuery>> allStates() {
-        Map<String, Supplier<ContinuousQuery>> states = new LinkedHashMap<>(Edge.config());
-        states.putAll(Edge.running());
-        return states;
-    }
-
     private static void wrongStream() {
-        allStates().forEach((state, maker) -> {
+        Edge.allStates().forEach((state, maker) -> {
             ContinuousQuery x = maker.get();
             for (int stream : Edge.outside(0, 1)) {
                 for (int i = 0; i <= 3; i++) {
@@ -107,7 +97,7 @@ public final class Promise14EdgesTest {
     }
 
     private static void emptyStore() {
-        allStates().forEach((state, maker) -> {
+        Edge.allStates().forEach((state, maker) -> {
             ContinuousQuery x = maker.get();
             x.reset();
             bothAreEmpty(x);
@@ -127,7 +117,7 @@ public final class Promise14EdgesTest {
     }
 
     private static void changesNothing() {
-        allStates().forEach((state, maker) -> {
+        Edge.allStates().forEach((state, maker) -> {
             ContinuousQuery sample = maker.get();
             for (int stream = -1; stream <= 2; stream++) {
                 for (int i : new int[] {Edge.MIN, -1, 0, 1, 2, 3, 12, Edge.MAX}) {

@@ -16,6 +16,7 @@ public final class WrapAroundTest {
         ContinuousQuery rows = query(Edge.RANGE, 63, Edge.ROWS, 2);
         stepAll(narrow, wide, rows);
         Edge.holds("now becomes t + 1, in Java int arithmetic.", () -> nowPassesTheGreatestInt(rows));
+        Edge.holds("Stores under a ROWS window are not changed by a step.", () -> rowsStoreStays(rows));
         Edge.holds("For each stream with a RANGE r window, held tuples with ts <= now - r are removed (with the new"
             + " now, in Java int arithmetic), and the remaining tuples keep their order.", () -> {
                 goesAcross(narrow, 1, 3);
@@ -52,20 +53,29 @@ public final class WrapAroundTest {
         }
     }
 
-    // The ROWS store keeps a tuple of the greatest instant and one of the least: no step removes them.
     private static void nowPassesTheGreatestInt(ContinuousQuery x) {
+        Due.due("now at the start", x.info(0), START);
+        x.arrive(1, 2, 3);
         for (int t = START; t < Integer.MAX_VALUE; t++) {
-            Due.due("now before " + t, x.info(0), t);
-            x.step();
+            Due.due("now", x.info(0), t);
+            Due.due("the step at " + t, x.step(), 0);
         }
         Due.due("the greatest now", x.info(0), Integer.MAX_VALUE);
         x.arrive(1, 15, 255);
         Due.due("the step at the greatest now", x.step(), 0);
         Due.due("now after it", x.info(0), Integer.MIN_VALUE);
+        Due.due("the step at the least now", x.step(), 0);
+        Due.due("now after that", x.info(0), Integer.MIN_VALUE + 1);
+    }
+
+    // A tuple of an instant long before the greatest one, then one of that, then one of the least.
+    private static void rowsStoreStays(ContinuousQuery x) {
+        List<Integer> before = List.of(START * 4096 + 515, -1);
+        Due.same("the ROWS store after the greatest now", Due.store(x, 1), before);
         x.arrive(1, 0, 0);
-        for (int t = Integer.MIN_VALUE; t < Integer.MIN_VALUE + 100; t++) {
+        for (int t = Integer.MIN_VALUE + 1; t < Integer.MIN_VALUE + 100; t++) {
             Due.due("now", x.info(0), t);
-            Due.same("the ROWS store at " + t, Due.store(x, 1), List.of(-1, 0));
+            Due.same("the ROWS store at " + t, Due.store(x, 1), List.of(-1, 4096));
             Due.due("the step at " + t, x.step(), 0);
         }
     }
