@@ -3,9 +3,29 @@ import java.util.List;
 
 /** What the tests share: comparing an answer with the one that is due, and reading an object whole. */
 final class Due {
+    private static final int DID_NOT_END = 3;
+    private static final long LONGEST_MILLIS = 10 * 60 * 1000;
+
     private static int wrong = 0;
 
+    // A call that never ends must fail its test, not hold it up for good.
+    static {
+        Thread watch = new Thread(Due::endAfterTheLongestTime);
+        watch.setDaemon(true);
+        watch.start();
+    }
+
     private Due() {
+    }
+
+    private static void endAfterTheLongestTime() {
+        try {
+            Thread.sleep(LONGEST_MILLIS);
+        } catch (InterruptedException interrupted) {
+            return;
+        }
+        System.out.println("a call does not end");
+        Runtime.getRuntime().halt(DID_NOT_END);
     }
 
     static void due(String call, int got, int want) {

@@ -38,8 +38,8 @@ final class Edge {
     }
 
     /**
-     * Numbers outside low..high: the nearest ones, the farthest ones, and those that fall into
-     * low..high if high bits or the sign are lost.
+     * Numbers outside low..high: the nearest ones, the farthest ones, round ones, and those that
+     * fall into low..high if high bits or the sign are lost.
      */
     static List<Integer> outside(int low, int high) {
         Set<Integer> numbers = new LinkedHashSet<>(List.of(
@@ -49,6 +49,14 @@ final class Edge {
             numbers.add(high + (1 << bit));
             numbers.add(low - (1 << bit));
             numbers.add(high - (1 << bit));
+        }
+        for (int distance = 1; distance <= 40; distance++) {
+            numbers.add(low - distance);
+            numbers.add(high + distance);
+        }
+        for (int round = 10; round <= 100_000_000; round *= 10) {
+            numbers.add(round);
+            numbers.add(-round);
         }
         numbers.removeIf(number -> number >= low && number <= high);
         return new ArrayList<>(numbers);

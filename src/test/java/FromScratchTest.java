@@ -46,21 +46,37 @@ public final class FromScratchTest {
         ContinuousQuery x = new ContinuousQuery(windows % 2 == 0 ? 12 : 4);
         Due.due("the window of S0", x.setWindow(0, window[0], window[1]), 0);
         Due.due("the window of S1", x.setWindow(1, window[2], window[3]), 0);
-        x.setFilter(0, mask % 2, windows % 5, output + 1);
-        x.setFilter(1, output % 2, mask % 5, windows);
         x.setJoin(join);
         x.setAggregate(aggregate[0], aggregate[1]);
         x.setProject(mask);
         x.setOutput(output);
+        x.setFilter(0, mask % 2, windows % 5, constantFor(x, mask % 2, output));
+        x.setFilter(1, output % 2, mask % 5, constantFor(x, output % 2, 2));
         Due.due("compile()", x.compile(), 0);
         return x;
     }
 
+    // The keys of a query are three in a row, from 0, 1, 2 to 13, 14, 15.
+    private static int firstKey(ContinuousQuery x) {
+        return (2 * x.info(17) + 5 * x.info(20) + x.info(7)) % 14;
+    }
+
+    // The values of a query are five in a row, either the least or the greatest.
+    private static int firstValue(ContinuousQuery x) {
+        return x.info(7) % 2 == 0 ? 0 : 251;
+    }
+
+    private static int constantFor(ContinuousQuery x, int field, int value) {
+        return field == 0 ? firstKey(x) + 1 : firstValue(x) + value;
+    }
+
     private static void play(ContinuousQuery x, boolean relation) {
+        int firstKey = firstKey(x);
+        int firstValue = firstValue(x);
         for (int t = 0; t < 24; t++) {
             for (int i = 0; i < t % 7; i++) {
-                x.arrive(0, (t + i) % 3, (t * i) % 5);
-                x.arrive(1, (t + 2 * i) % 3, (t + i) % 4);
+                x.arrive(0, firstKey + (t + i) % 3, firstValue + (t * i) % 5);
+                x.arrive(1, firstKey + (t + 2 * i) % 3, firstValue + (t + i) % 4);
             }
             List<List<Integer>> due = fromScratch(x);
             List<List<Integer>> previous = Due.rows(x, 1);

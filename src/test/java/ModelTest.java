@@ -13,8 +13,15 @@ public final class ModelTest {
     private static final int CALLS = 150;
     private static final int LONG_RUNS = 30;
     private static final int LONG_CALLS = 6000;
+    private static final int QUERY_CALLS = 60;
 
     private long seed;
+
+    // A run takes most of its keys and values from a short stretch, so that many of them are equal.
+    private int firstKey;
+    private int keys;
+    private int firstValue;
+    private int values;
 
     public static void main(String[] args) {
         for (int run = 1; run <= RUNS; run++) {
@@ -24,11 +31,16 @@ public final class ModelTest {
         for (int run = RUNS + 1; run <= RUNS + LONG_RUNS; run++) {
             new ModelTest(run).play(run, LONG_CALLS);
         }
+        everyQuery();
         Due.end();
     }
 
     private ModelTest(int run) {
         seed = run * 7919L;
+        keys = 1 + upTo(4);
+        firstKey = upTo(17 - keys);
+        values = 1 + upTo(6);
+        firstValue = upTo(2) == 0 ? 0 : upTo(257 - values);
     }
 
     private int upTo(int bound) {
@@ -55,15 +67,60 @@ public final class ModelTest {
         int cap = upTo(16);
         ContinuousQuery x = new ContinuousQuery(cap);
         Model model = new Model(cap);
-        int keys = 1 + upTo(4);
-        int values = 1 + upTo(6);
+        goOn("run " + run, x, model, calls);
+    }
+
+    private void goOn(String run, ContinuousQuery x, Model model, int calls) {
         for (int call = 0; call < calls; call++) {
-            String made = model.info(1) == 0
-                ? configCall(x, model)
-                : runningCall(x, model, keys, values);
-            String when = "run " + run + ", call " + call + ", " + made;
-            compare(when, x, model);
+            String made = model.info(1) == 0 ? configCall(x, model) : runningCall(x, model);
+            compare(run + ", call " + call + ", " + made, x, model);
         }
+    }
+
+    /** Each join, aggregate, output kind and pair of window kinds, with each pair of filter ops. */
+    private static void everyQuery() {
+        int run = 0;
+        for (int join = 0; join <= 1; join++) {
+            for (int[] aggregate : new int[][] {{0, 0}, {1, 0}, {2, 1}, {2, 2}}) {
+                for (int output = 1; output <= 3; output++) {
+                    for (int kinds = 0; kinds < 4; kinds++) {
+                        for (int ops = 0; ops < 25; ops++) {
+                            int[] clauses = {join, aggregate[0], aggregate[1], output,
+                                1 + kinds % 2, 1 + kinds / 2, ops % 5, ops / 5};
+                            run++;
+                            new ModelTest(run).playQuery("query " + run, clauses);
+                        }
+                    }
+                }
+            }
+        }
+    }
+
+    private void playQuery(String run, int[] clauses) {
+        int cap = 2 + upTo(11);
+        ContinuousQuery x = new ContinuousQuery(cap);
+        Model model = new Model(cap);
+        same("setJoin", x.setJoin(clauses[0]), model.setJoin(clauses[0]));
+        same("setAggregate", x.setAggregate(clauses[1], clauses[2]), model.setAggregate(clauses[1], clauses[2]));
+        same("setOutput", x.setOutput(clauses[3]), model.setOutput(clauses[3]));
+        int mask = 1 + upTo(7);
+        same("setProject", x.setProject(mask), model.setProject(mask));
+        for (int stream = 0; stream <= 1; stream++) {
+            int kind = clauses[4 + stream];
+            int size = 1 + upTo(kind == 1 ? 8 : cap);
+            same("setWindow", x.setWindow(stream, kind, size), model.setWindow(stream, kind, size));
+            int op = clauses[6 + stream];
+            int field = upTo(2);
+            int constant = constantFor(field);
+            setFilter(x, model, stream, field, op, constant);
+        }
+        same("compile", x.compile(), model.compile());
+        goOn(run, x, model, QUERY_CALLS);
+    }
+
+    /** A constant that some tuples of this run pass and others do not. */
+    private int constantFor(int field) {
+        return field == 0 ? firstKey + upTo(keys) : firstValue + upTo(values);
     }
 
     private String configCall(ContinuousQuery x, Model model) {
@@ -74,7 +131,7 @@ public final class ModelTest {
         switch (upTo(9)) {
             case 0: return setRange(x, model, stream, upTo(2) == 0 ? a : near(1, 64));
             case 1: return same("setWindow", x.setWindow(stream, c, a), model.setWindow(stream, c, a));
-            case 2: return same("setFilter", x.setFilter(stream, c, b, a), model.setFilter(stream, c, b, a));
+            case 2: return setFilter(x, model, stream, c, b, upTo(3) == 0 ? a : constantFor(c));
             case 3: return same("setJoin", x.setJoin(stream), model.setJoin(stream));
             case 4: return same("setProject", x.setProject(a), model.setProject(a));
             case 5: return same("setAggregate", x.setAggregate(c, stream + 1), model.setAggregate(c, stream + 1));
@@ -88,7 +145,11 @@ public final class ModelTest {
         return same("setWindow", x.setWindow(stream, 1, size), model.setWindow(stream, 1, size));
     }
 
-    private String runningCall(ContinuousQuery x, Model model, int keys, int values) {
+    private static String setFilter(ContinuousQuery x, Model model, int stream, int field, int op, int constant) {
+        return same("setFilter", x.setFilter(stream, field, op, constant), model.setFilter(stream, field, op, constant));
+    }
+
+    private String runningCall(ContinuousQuery x, Model model) {
         int choice = upTo(100);
         if (choice == 0) {
             return strayCall(x, model);
@@ -97,8 +158,8 @@ public final class ModelTest {
             return same("step", x.step(), model.step());
         }
         int stream = near(0, 1);
-        int key = choice < 33 ? near(0, 15) : upTo(keys);
-        int value = choice < 36 ? near(0, 255) : upTo(values);
+        int key = choice < 33 ? near(0, 15) : firstKey + upTo(keys);
+        int value = choice < 36 ? near(0, 255) : firstValue + upTo(values);
         return same("arrive", x.arrive(stream, key, value), model.arrive(stream, key, value));
     }
 

@@ -9,6 +9,8 @@ public final class Promise04EdgesTest {
         Edge.holds("stream not 0 or 1 -> ERR_ARG.", Promise04EdgesTest::wrongStreamIsRefused);
         Edge.holds("op outside 0..4 -> ERR_ARG.", Promise04EdgesTest::wrongOpIsRefused);
         Edge.holds("op not NONE and field not 0 or 1 -> ERR_ARG.", Promise04EdgesTest::wrongFieldIsRefused);
+        Edge.holds("Otherwise it sets the filter of that stream and answers OK:",
+            Promise04EdgesTest::setsTheFilterOfThatStream);
         Edge.holds("**op NONE** stores op 0, field 0 and constant 0, whatever field and constant were given.",
             Promise04EdgesTest::noneStoresZeros);
         Edge.holds("An out-of-range field is not refused in this case.",
@@ -72,6 +74,24 @@ public final class Promise04EdgesTest {
 
     private static void sets(ContinuousQuery x, int stream, int field, int op, int constant) {
         Due.due(call(stream, field, op, constant), x.setFilter(stream, field, op, constant), 0);
+    }
+
+    // Each stream holds values 5 and 6 of one key; the filter leaves one of them on its stream.
+    private static void setsTheFilterOfThatStream() {
+        String[] want = {"1,5,5 1,5,6", "1,5,5 1,6,5"};
+        for (int stream = 0; stream <= 1; stream++) {
+            ContinuousQuery x = new ContinuousQuery(4);
+            x.setJoin(1);
+            sets(x, stream, 1, 3, 6);
+            filterIs("the other filter", x, 1 - stream, 0, 0, 0);
+            x.compile();
+            for (int s = 0; s <= 1; s++) {
+                x.arrive(s, 1, 5);
+                x.arrive(s, 1, 6);
+            }
+            Due.due("step()", x.step(), 2);
+            Due.rowsAre("a filter of S" + stream, x, 1, want[stream]);
+        }
     }
 
     private static void noneStoresZeros() {

@@ -36,6 +36,27 @@ public final class Promise09EdgesTest {
             ContinuousQuery::compile);
         Edge.refusedBy("compile() of SUM 2 without join, the other clauses set", Edge.QUERY,
             Promise09EdgesTest::othersSet, ContinuousQuery::compile);
+        for (int mask = 1; mask <= 7; mask++) {
+            for (int output = 1; output <= 3; output++) {
+                for (int kinds = 0; kinds < 4; kinds++) {
+                    int[] clauses = {mask, output, 1 + kinds % 2, 1 + kinds / 2, (mask + kinds) % 5};
+                    Edge.refusedBy("compile() of SUM 2 without join, other clauses " + List.of(mask, output, kinds),
+                        Edge.QUERY, () -> sum2With(clauses), ContinuousQuery::compile);
+                }
+            }
+        }
+    }
+
+    /** SUM of column 2 without join, with this mask, output kind, pair of window kinds and filter op. */
+    private static ContinuousQuery sum2With(int[] clauses) {
+        ContinuousQuery x = query(0, 2, 2);
+        x.setProject(clauses[0]);
+        x.setOutput(clauses[1]);
+        x.setWindow(0, clauses[2], 2);
+        x.setWindow(1, clauses[3], 2);
+        x.setFilter(0, 1, clauses[4], 3);
+        x.setFilter(1, 0, clauses[4], 3);
+        return x;
     }
 
     private static ContinuousQuery joinOffAgain() {

@@ -9,6 +9,8 @@ public final class Promise11EdgesTest {
     public static void main(String[] args) {
         Edge.holds("In phase CONFIG, `step()` answers ERR_PHASE and changes nothing.",
             Promise11EdgesTest::configIsRefused);
+        Edge.holds("Otherwise, with t = now, it does the following in this order:",
+            Promise11EdgesTest::onePlaceAfterTheOther);
         Edge.holds("R(t) is evaluated as defined below.", Promise11EdgesTest::evaluatedBeforeExpiry);
         Edge.holds("The output list is set from R(t) and the previous relation, according to the output kind.",
             Promise11EdgesTest::outputComesBeforeTheNewRelation);
@@ -19,11 +21,15 @@ public final class Promise11EdgesTest {
         Edge.holds("Stores under a ROWS window are not changed by a step.", Promise11EdgesTest::rowsStoresStay);
         Edge.holds("The call answers the number of output rows, which is >= 0 and equals info(INFO_OUT_COUNT)"
             + " afterwards.", Promise11EdgesTest::answersTheNumberOfRows);
+        Edge.holds("W_s is the list of tuples held in the store of s at the start of the step",
+            Promise11EdgesTest::whatIsHeldTakesPart);
         Edge.holds("the window contents (identical tuples count separately).",
             Promise11EdgesTest::identicalTuplesCount);
         Edge.holds("F_s is the tuples of W_s that pass the filter of s, duplicates kept.",
             Promise11EdgesTest::filterKeepsDuplicates);
         Edge.holds("Op NONE passes all tuples.", Promise11EdgesTest::nonePassesAll);
+        Edge.holds("Otherwise let f be the key or the value as the stored field chooses, and c the stored constant",
+            Promise11EdgesTest::theFieldChooses);
         Edge.holds("EQ: f == c", () -> filterAtItsEdges(1));
         Edge.holds("NE: f != c", () -> filterAtItsEdges(2));
         Edge.holds("LT: f < c", () -> filterAtItsEdges(3));
@@ -60,6 +66,29 @@ public final class Promise11EdgesTest {
 
     private static void configIsRefused() {
         Edge.refused("step()", Edge.PHASE, Edge.config(), ContinuousQuery::step);
+    }
+
+    // One step whose output, relation, now and stores each need what stood before it.
+    private static void onePlaceAfterTheOther() {
+        for (int output = 1; output <= 3; output++) {
+            ContinuousQuery x = new ContinuousQuery(3);
+            x.setJoin(1);
+            x.setWindow(0, Edge.RANGE, 2);
+            x.setWindow(1, Edge.RANGE, 1);
+            x.setOutput(output);
+            x.compile();
+            x.arrive(0, 4, 1);
+            x.arrive(1, 4, 2);
+            x.step();
+            x.arrive(0, 4, 3);
+            x.arrive(1, 4, 5);
+            Due.due("the step at 1", x.step(), output == 2 ? 1 : 2);
+            Due.rowsAre("output " + output, x, 0, output == 2 ? "4,1,2" : "4,1,5 4,3,5");
+            Due.rowsAre("relation", x, 1, "4,1,5 4,3,5");
+            Due.due("now", x.info(0), 2);
+            Due.same("the store of S0", Due.store(x, 0), List.of(4096 + 4 * 256 + 3));
+            Due.same("the store of S1", Due.store(x, 1), List.of());
+        }
     }
 
     private static void evaluatedBeforeExpiry() {
@@ -117,27 +146,44 @@ public final class Promise11EdgesTest {
         }
     }
 
-    // A tuple in every instant that has room; what stays is told by the rule itself.
+    // A tuple in every instant that has room; what stays is told by the rule itself, whatever the
+    // query makes of it.
     private static void rangeRemovesUpToItsEdge() {
+        int[][] aggregates = {{0, 0}, {1, 0}, {2, 1}, {2, 2}};
         for (int r = 1; r <= 64; r++) {
-            ContinuousQuery x = new ContinuousQuery(12);
-            x.setJoin(1);
-            x.setWindow(0, Edge.RANGE, r);
-            x.setWindow(1, Edge.RANGE, 65 - r);
-            x.compile();
-            List<Integer> held0 = new ArrayList<>();
-            List<Integer> held1 = new ArrayList<>();
-            for (int t = 0; t < 150; t++) {
-                arriveWhereRoom(x, 0, t, held0);
-                arriveWhereRoom(x, 1, t, held1);
-                x.step();
-                int limit0 = t + 1 - r;
-                int limit1 = t + 1 - (65 - r);
-                held0.removeIf(ts -> ts <= limit0);
-                held1.removeIf(ts -> ts <= limit1);
-                Due.same("RANGE " + r + " after instant " + t, Due.store(x, 0), told(held0));
-                Due.same("RANGE " + (65 - r) + " after instant " + t, Due.store(x, 1), told(held1));
+            for (int kind = 0; kind < 8; kind++) {
+                int[] aggregate = aggregates[kind / 2];
+                ContinuousQuery x = new ContinuousQuery(12);
+                x.setJoin(aggregate[1] == 2 ? 1 : kind % 2);
+                x.setWindow(0, Edge.RANGE, r);
+                x.setWindow(1, Edge.RANGE, 65 - r);
+                x.setAggregate(aggregate[0], aggregate[1]);
+                x.setProject(1 + r % 7);
+                x.setOutput(1 + r % 3);
+                x.setFilter(0, r % 2, r % 5, 4);
+                Due.due("compile()", x.compile(), 0);
+                removesUpToItsEdge(x);
             }
+        }
+    }
+
+    private static void removesUpToItsEdge(ContinuousQuery x) {
+        int r0 = x.info(7);
+        int r1 = x.info(9);
+        List<Integer> held0 = new ArrayList<>();
+        List<Integer> held1 = new ArrayList<>();
+        for (int t = 0; t < 150; t++) {
+            arriveWhereRoom(x, 0, t, held0);
+            if (x.info(16) == 1) {
+                arriveWhereRoom(x, 1, t, held1);
+            }
+            x.step();
+            int limit0 = t + 1 - r0;
+            int limit1 = t + 1 - r1;
+            held0.removeIf(ts -> ts <= limit0);
+            held1.removeIf(ts -> ts <= limit1);
+            Due.same("RANGE " + r0 + " after instant " + t, Due.store(x, 0), told(held0));
+            Due.same("RANGE " + r1 + " after instant " + t, Due.store(x, 1), told(held1));
         }
     }
 
@@ -228,6 +274,27 @@ public final class Promise11EdgesTest {
         Due.due("info(2)", x.info(2), want);
     }
 
+    // Tuples of this instant and of the one before, of both streams, but none that was dropped.
+    private static void whatIsHeldTakesPart() {
+        ContinuousQuery x = new ContinuousQuery(4);
+        x.setJoin(1);
+        x.setWindow(0, Edge.RANGE, 2);
+        x.setWindow(1, Edge.ROWS, 2);
+        x.compile();
+        x.arrive(0, 6, 10);
+        x.arrive(1, 6, 20);
+        x.arrive(1, 6, 21);
+        x.step();
+        x.arrive(0, 6, 11);
+        x.arrive(1, 6, 22);
+        Due.same("S0 at the start of the step", Due.store(x, 0), List.of(1546, 4096 + 1547));
+        Due.same("S1 at the start of the step", Due.store(x, 1), List.of(1557, 4096 + 1558));
+        x.step();
+        Due.rowsAre("what was held", x, 1, "6,10,21 6,10,22 6,11,21 6,11,22");
+        x.step();
+        Due.rowsAre("what was held a step later", x, 1, "6,11,21 6,11,22");
+    }
+
     private static void identicalTuplesCount() {
         for (int count = 1; count <= 12; count++) {
             ContinuousQuery x = new ContinuousQuery(12);
@@ -270,6 +337,22 @@ public final class Promise11EdgesTest {
         x.arrive(0, 0, 255);
         Due.due("step()", x.step(), 3);
         Due.rowsAre("all tuples", x, 1, "0,0,0 0,255,0 15,255,0");
+    }
+
+    private static void theFieldChooses() {
+        String[] want = {"3,4,0 3,5,0", "3,4,0 5,4,0"};
+        for (int field = 0; field <= 1; field++) {
+            ContinuousQuery x = new ContinuousQuery(4);
+            x.setFilter(0, field, 1, 3 + field);
+            x.setFilter(1, 1 - field, 2, 3);
+            x.compile();
+            x.arrive(0, 3, 5);
+            x.arrive(0, 5, 3);
+            x.arrive(0, 5, 4);
+            x.arrive(0, 3, 4);
+            x.step();
+            Due.rowsAre("field " + field, x, 1, want[field]);
+        }
     }
 
     // Constants at, below and above what is tested, and far outside of what a tuple may have.
@@ -473,6 +556,26 @@ public final class Promise11EdgesTest {
         x.arrive(1, 4, 4);
         x.step();
         Due.rowsAre("keys of one side only", x, 1, "3,1,0");
+        groupsComeAndGo();
+    }
+
+    // Each key has a row in one instant and none in the next ones.
+    private static void groupsComeAndGo() {
+        for (int aggregate = 1; aggregate <= 2; aggregate++) {
+            ContinuousQuery x = new ContinuousQuery(4);
+            x.setAggregate(aggregate, 1);
+            x.setWindow(0, Edge.RANGE, 1);
+            x.compile();
+            for (int t = 0; t < 48; t++) {
+                int key = t * 5 % 16;
+                x.arrive(0, key, 1);
+                x.arrive(0, key, 1);
+                Due.due("the step of key " + key, x.step(), 1);
+                Due.rowsAre("the step of key " + key, x, 1, key + ",2,0");
+            }
+            Due.due("the step without a key", x.step(), 0);
+            Due.due("its relation", x.info(3), 0);
+        }
     }
 
     private static void projectionOfGreatestColumns() {
@@ -541,7 +644,7 @@ public final class Promise11EdgesTest {
         }
     }
 
-    // No row of a full relation is in the next one, be that greater, lesser or empty.
+    // No row of a full relation is in the next one, be that greater, lesser or empty, or all are.
     private static void fullRelations(int output) {
         ContinuousQuery x = new ContinuousQuery(12);
         x.setJoin(1);
@@ -550,12 +653,13 @@ public final class Promise11EdgesTest {
         x.setOutput(output);
         x.compile();
         int previous = -1;
-        for (int key : new int[] {7, 15, 0, -1, 15, -1, 0, 7}) {
+        for (int key : new int[] {7, 15, 0, -1, 15, -1, 0, 7, 7, 7, 15, 15}) {
             for (int i = 0; i < 12 && key >= 0; i++) {
                 x.arrive(0, key, 255);
                 x.arrive(1, key, 255);
             }
-            int emitted = output == 2 ? previous : key;
+            int changed = key == previous ? -1 : output == 1 ? key : previous;
+            int emitted = output == 3 ? key : changed;
             Due.due("a relation of key " + key, x.step(), emitted < 0 ? 0 : 144);
             for (List<Integer> row : Due.rows(x, 0)) {
                 Due.same("a row emitted", row, List.of(emitted, 255, 255));
@@ -591,6 +695,36 @@ public final class Promise11EdgesTest {
             x.step();
             isSorted(x, 0, output == 2 ? 39 : 0);
         }
+        fullListIsSorted();
+    }
+
+    // As many rows as there can be, the greatest ones made first.
+    private static void fullListIsSorted() {
+        for (int output = 1; output <= 3; output++) {
+            ContinuousQuery x = new ContinuousQuery(12);
+            x.setJoin(1);
+            x.setWindow(1, Edge.RANGE, 1);
+            x.setOutput(output);
+            x.compile();
+            for (int i = 11; i >= 0; i--) {
+                x.arrive(0, 15, 20 * i);
+                x.arrive(1, 15, 23 * i);
+            }
+            x.step();
+            isFullAndSorted(x, 1);
+            if (output == 2) {
+                x.step();
+            }
+            isFullAndSorted(x, 0);
+        }
+    }
+
+    private static void isFullAndSorted(ContinuousQuery x, int which) {
+        List<List<Integer>> want = new ArrayList<>();
+        for (int i = 0; i < 144; i++) {
+            want.add(List.of(15, i / 12 * 20, i % 12 * 23));
+        }
+        Due.same("list " + which + " of 144 rows", Due.rows(x, which), want);
     }
 
     private static void isSorted(ContinuousQuery x, int which, int count) {

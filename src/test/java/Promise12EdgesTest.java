@@ -3,6 +3,13 @@ public final class Promise12EdgesTest {
     public static void main(String[] args) {
         Edge.holds("`info(what)` answers the value named by an INFO_ code, in either phase:",
             Promise12EdgesTest::bothPhasesAnswer);
+        Edge.holds("the current, open instant", Promise12EdgesTest::nowIsTheOpenInstant);
+        Edge.holds("PHASE_CONFIG or PHASE_RUNNING", Promise12EdgesTest::bothPhasesAreTold);
+        Edge.holds("window kind and size of S0, as set", () -> windowAsSet(0));
+        Edge.holds("window kind and size of S1, as set", () -> windowAsSet(1));
+        Edge.holds("the filter of a stream, as stored", Promise12EdgesTest::filtersAsStored);
+        Edge.holds("the stored clause values", Promise12EdgesTest::clausesAsStored);
+        Edge.holds("the clamped cap", Promise12EdgesTest::capIsTheClampedOne);
         Edge.holds("the number of tuples held in the store of S0 or S1", Promise12EdgesTest::heldFromEmptyToFull);
         Edge.holds("the number of rows emitted by the last step", Promise12EdgesTest::outCountFromEmptyToFull);
         Edge.holds("the number of rows of the last computed relation",
@@ -25,6 +32,117 @@ public final class Promise12EdgesTest {
         Due.infosAre("with full stores", Edge.fullRows(), full);
         int[] ranges = {2, 1, 2, 2, 2, 2, 1, 3, 1, 1, 0, 0, 0, 0, 0, 0, 1, 7, 0, 0, 2, 2};
         Due.infosAre("with full RANGE stores", Edge.fullRanges(), ranges);
+    }
+
+    private static void nowIsTheOpenInstant() {
+        ContinuousQuery x = new ContinuousQuery(3);
+        Due.due("info(0) in CONFIG", x.info(0), 0);
+        x.compile();
+        for (int t = 0; t < 1000; t++) {
+            Due.due("info(0) before the step at " + t, x.info(0), t);
+            x.arrive(0, 1, 1);
+            Due.due("info(0) after a tuple at " + t, x.info(0), t);
+            Due.due("the instant of that tuple", x.stored(0, x.info(4) - 1), t * 4096 + 257);
+            x.step();
+        }
+        x.reset();
+        Due.due("info(0) after reset", x.info(0), 0);
+    }
+
+    private static void bothPhasesAreTold() {
+        Edge.config().forEach((state, maker) -> Due.due("info(1) of " + state, maker.get().info(1), 0));
+        Edge.running().forEach((state, maker) -> Due.due("info(1) of " + state, maker.get().info(1), 1));
+    }
+
+    private static void windowAsSet(int stream) {
+        for (int cap = 2; cap <= 12; cap++) {
+            for (int kind = 1; kind <= 2; kind++) {
+                for (int size = 1; size <= (kind == 1 ? 64 : cap); size++) {
+                    ContinuousQuery x = new ContinuousQuery(cap);
+                    x.setWindow(1 - stream, 3 - kind, 2);
+                    x.setWindow(stream, kind, size);
+                    windowsAre(x, stream, kind, size);
+                    x.compile();
+                    x.arrive(0, 1, 1);
+                    x.step();
+                    windowsAre(x, stream, kind, size);
+                }
+            }
+        }
+    }
+
+    private static void windowsAre(ContinuousQuery x, int stream, int kind, int size) {
+        Due.due("kind of S" + stream, x.info(6 + 2 * stream), kind);
+        Due.due("size of S" + stream, x.info(7 + 2 * stream), size);
+        Due.due("kind of the other stream", x.info(8 - 2 * stream), 3 - kind);
+        Due.due("size of the other stream", x.info(9 - 2 * stream), 2);
+    }
+
+    private static void filtersAsStored() {
+        for (int ops = 0; ops < 25; ops++) {
+            for (int fields = 0; fields < 4; fields++) {
+                ContinuousQuery x = new ContinuousQuery(3);
+                x.setFilter(0, fields % 2, ops % 5, -8);
+                x.setFilter(1, fields / 2, ops / 5, Edge.MAX);
+                filtersAre(x, ops, fields);
+                x.compile();
+                x.arrive(0, 1, 1);
+                x.step();
+                filtersAre(x, ops, fields);
+            }
+        }
+    }
+
+    private static void filtersAre(ContinuousQuery x, int ops, int fields) {
+        int op0 = ops % 5;
+        int op1 = ops / 5;
+        Due.due("op of S0", x.info(10), op0);
+        Due.due("field of S0", x.info(11), op0 == 0 ? 0 : fields % 2);
+        Due.due("constant of S0", x.info(12), op0 == 0 ? 0 : -8);
+        Due.due("op of S1", x.info(13), op1);
+        Due.due("field of S1", x.info(14), op1 == 0 ? 0 : fields / 2);
+        Due.due("constant of S1", x.info(15), op1 == 0 ? 0 : Edge.MAX);
+    }
+
+    private static void clausesAsStored() {
+        int[][] aggregates = {{0, 0}, {1, 0}, {2, 1}, {2, 2}};
+        for (int[] aggregate : aggregates) {
+            for (int mask = 1; mask <= 7; mask++) {
+                for (int output = 1; output <= 3; output++) {
+                    for (int join = aggregate[1] == 2 ? 1 : 0; join <= 1; join++) {
+                        ContinuousQuery x = new ContinuousQuery(3);
+                        x.setJoin(join);
+                        x.setProject(mask);
+                        x.setAggregate(aggregate[0], aggregate[1]);
+                        x.setOutput(output);
+                        int[] want = {join, mask, aggregate[0], aggregate[1], output};
+                        clausesAre("in CONFIG", x, want);
+                        x.compile();
+                        x.arrive(0, 1, 1);
+                        x.step();
+                        clausesAre("while RUNNING", x, want);
+                    }
+                }
+            }
+        }
+    }
+
+    private static void clausesAre(String when, ContinuousQuery x, int[] want) {
+        for (int i = 0; i < want.length; i++) {
+            Due.due(when + ": info(" + (16 + i) + ")", x.info(16 + i), want[i]);
+        }
+    }
+
+    private static void capIsTheClampedOne() {
+        for (int cap = -300; cap <= 300; cap++) {
+            ContinuousQuery x = new ContinuousQuery(cap);
+            Due.due("info(21) of cap " + cap, x.info(21), Math.max(2, Math.min(12, cap)));
+        }
+        for (int cap : Edge.outside(2, 12)) {
+            ContinuousQuery x = new ContinuousQuery(cap);
+            x.compile();
+            Due.due("info(21) of cap " + cap, x.info(21), cap < 2 ? 2 : 12);
+        }
     }
 
     private static void heldFromEmptyToFull() {

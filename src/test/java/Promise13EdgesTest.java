@@ -8,6 +8,8 @@ public final class Promise13EdgesTest {
             Promise13EdgesTest::relationRows);
         Edge.holds("i counts from 0 in the sorted order, and col is 0..2.",
             Promise13EdgesTest::firstAndLastRowAndColumn);
+        Edge.holds("The call answers the value of column col of row i of that list.",
+            Promise13EdgesTest::everyRowAndColumn);
         Edge.holds("which is neither 0 nor 1", Promise13EdgesTest::wrongList);
         Edge.holds("i is outside 0..count-1, where count is info(INFO_OUT_COUNT) or info(INFO_REL_COUNT)"
             + " respectively", Promise13EdgesTest::rowOutside);
@@ -65,6 +67,30 @@ public final class Promise13EdgesTest {
         Due.due("row(1, 0, 2)", x.row(1, 0, 2), 0);
         Due.due("row(1, 143, 0)", x.row(1, 143, 0), 15);
         Due.due("row(1, 143, 2)", x.row(1, 143, 2), 110);
+    }
+
+    // The relation has the rows of two keys, the output those of the key that is new.
+    private static void everyRowAndColumn() {
+        int[][] relation = {{2, 7, 9}, {2, 7, 200}, {11, 0, 255}, {11, 130, 255}};
+        ContinuousQuery x = new ContinuousQuery(4);
+        x.setJoin(1);
+        x.compile();
+        x.arrive(0, 2, 7);
+        x.arrive(1, 2, 200);
+        x.arrive(1, 2, 9);
+        x.step();
+        x.arrive(0, 11, 130);
+        x.arrive(0, 11, 0);
+        x.arrive(1, 11, 255);
+        Due.due("step()", x.step(), 2);
+        for (int col = 0; col <= 2; col++) {
+            for (int i = 0; i < 4; i++) {
+                Due.due("row(1, " + i + ", " + col + ")", x.row(1, i, col), relation[i][col]);
+            }
+            for (int i = 0; i < 2; i++) {
+                Due.due("row(0, " + i + ", " + col + ")", x.row(0, i, col), relation[2 + i][col]);
+            }
+        }
     }
 
     private static void wrongList() {

@@ -5,6 +5,7 @@ import java.util.List;
  * Promises 11 and 14 where now passes the greatest int. Only steps lead there, so each object makes
  * some two thousand million of them, in a thread of its own. There RANGE means what the sentence on
  * a step's removals says in int arithmetic: a tuple of the least instants leaves with its own step.
+ * Shorter runs look at the first ten thousand instants and at those about the lesser powers of two.
  */
 public final class WrapAroundTest {
     private static final int START = Integer.MAX_VALUE - 70;
@@ -14,13 +15,16 @@ public final class WrapAroundTest {
         ContinuousQuery narrow = query(Edge.RANGE, 1, Edge.RANGE, 3);
         ContinuousQuery wide = query(Edge.RANGE, 64, Edge.RANGE, 2);
         ContinuousQuery rows = query(Edge.RANGE, 63, Edge.ROWS, 2);
+        // Before any tuple arrives: Java is fastest with steps as long as it has seen empty stores only.
         stepAll(narrow, wide, rows);
         Edge.holds("now becomes t + 1, in Java int arithmetic.", () -> nowPassesTheGreatestInt(rows));
         Edge.holds("Stores under a ROWS window are not changed by a step.", () -> rowsStoreStays(rows));
         Edge.holds("For each stream with a RANGE r window, held tuples with ts <= now - r are removed (with the new"
             + " now, in Java int arithmetic), and the remaining tuples keep their order.", () -> {
-                goesAcross(narrow, 1, 3);
-                goesAcross(wide, 64, 2);
+                holdsItsInstants(narrow, START, STEPS);
+                holdsItsInstants(wide, START, STEPS);
+                looksOnTheWay(query(Edge.RANGE, 1, Edge.RANGE, 3));
+                looksOnTheWay(query(Edge.RANGE, 64, Edge.RANGE, 2));
             });
         Due.end();
     }
@@ -38,7 +42,7 @@ public final class WrapAroundTest {
     private static void stepAll(ContinuousQuery... queries) throws InterruptedException {
         List<Thread> threads = new ArrayList<>();
         for (ContinuousQuery x : queries) {
-            Thread thread = new Thread(() -> stepToStart(x));
+            Thread thread = new Thread(() -> stepTo(x, START));
             thread.start();
             threads.add(thread);
         }
@@ -47,9 +51,18 @@ public final class WrapAroundTest {
         }
     }
 
-    private static void stepToStart(ContinuousQuery x) {
-        for (int t = 0; t < START; t++) {
+    private static void stepTo(ContinuousQuery x, int instant) {
+        for (int t = x.info(0); t < instant; t++) {
             x.step();
+        }
+    }
+
+    private static void looksOnTheWay(ContinuousQuery x) {
+        holdsItsInstants(x, 0, 10_000);
+        for (int bit = 14; bit <= 26; bit++) {
+            int start = (1 << bit) - 70;
+            stepTo(x, start);
+            holdsItsInstants(x, start, STEPS);
         }
     }
 
@@ -80,11 +93,14 @@ public final class WrapAroundTest {
         }
     }
 
-    private static void goesAcross(ContinuousQuery x, int r0, int r1) {
+    // Both windows are RANGE, and nothing is held at the start.
+    private static void holdsItsInstants(ContinuousQuery x, int start, int steps) {
+        int r0 = x.info(7);
+        int r1 = x.info(9);
         List<Integer> held0 = new ArrayList<>();
         List<Integer> held1 = new ArrayList<>();
-        int t = START;
-        for (int i = 0; i < STEPS; i++) {
+        int t = start;
+        for (int i = 0; i < steps; i++) {
             // Every seventh instant only, so that a RANGE 64 store of 12 places never fills.
             arriveAt(x, 0, t, i % 7 == 0 || t == Integer.MIN_VALUE + 1, held0);
             arriveAt(x, 1, t, true, held1);
