@@ -162,14 +162,12 @@ public final class Promise11EdgesTest {
                 x.setOutput(1 + r % 3);
                 x.setFilter(0, r % 2, r % 5, 4);
                 Due.due("compile()", x.compile(), 0);
-                removesUpToItsEdge(x);
+                removesUpToItsEdge(x, r, 65 - r);
             }
         }
     }
 
-    private static void removesUpToItsEdge(ContinuousQuery x) {
-        int r0 = x.info(7);
-        int r1 = x.info(9);
+    private static void removesUpToItsEdge(ContinuousQuery x, int r0, int r1) {
         List<Integer> held0 = new ArrayList<>();
         List<Integer> held1 = new ArrayList<>();
         for (int t = 0; t < 150; t++) {

@@ -21,10 +21,10 @@ public final class WrapAroundTest {
         Edge.holds("Stores under a ROWS window are not changed by a step.", () -> rowsStoreStays(rows));
         Edge.holds("For each stream with a RANGE r window, held tuples with ts <= now - r are removed (with the new"
             + " now, in Java int arithmetic), and the remaining tuples keep their order.", () -> {
-                holdsItsInstants(narrow, START, STEPS);
-                holdsItsInstants(wide, START, STEPS);
-                looksOnTheWay(query(Edge.RANGE, 1, Edge.RANGE, 3));
-                looksOnTheWay(query(Edge.RANGE, 64, Edge.RANGE, 2));
+                holdsItsInstants(narrow, 1, 3, START, STEPS);
+                holdsItsInstants(wide, 64, 2, START, STEPS);
+                looksOnTheWay(1, 3);
+                looksOnTheWay(64, 2);
             });
         Due.end();
     }
@@ -57,12 +57,13 @@ public final class WrapAroundTest {
         }
     }
 
-    private static void looksOnTheWay(ContinuousQuery x) {
-        holdsItsInstants(x, 0, 10_000);
+    private static void looksOnTheWay(int r0, int r1) {
+        ContinuousQuery x = query(Edge.RANGE, r0, Edge.RANGE, r1);
+        holdsItsInstants(x, r0, r1, 0, 10_000);
         for (int bit = 14; bit <= 26; bit++) {
             int start = (1 << bit) - 70;
             stepTo(x, start);
-            holdsItsInstants(x, start, STEPS);
+            holdsItsInstants(x, r0, r1, start, STEPS);
         }
     }
 
@@ -94,9 +95,7 @@ public final class WrapAroundTest {
     }
 
     // Both windows are RANGE, and nothing is held at the start.
-    private static void holdsItsInstants(ContinuousQuery x, int start, int steps) {
-        int r0 = x.info(7);
-        int r1 = x.info(9);
+    private static void holdsItsInstants(ContinuousQuery x, int r0, int r1, int start, int steps) {
         List<Integer> held0 = new ArrayList<>();
         List<Integer> held1 = new ArrayList<>();
         int t = start;
